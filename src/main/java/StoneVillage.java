@@ -183,16 +183,29 @@ public final class StoneVillage {
 
     public int quarrel(int stone, int a, int b) {
         if (!stones.has(stone) || !people.has(a) || !people.has(b) || a == b) return BAD;
-        int forA = supporters(stone, a, b), forB = supporters(stone, b, a);
-        if (forA != forB) return forA > forB ? a : b;
-        int nearA = nearestHearing(stone, a, b), nearB = nearestHearing(stone, b, a);
-        if (nearA != nearB) return nearA < nearB ? a : b;
-        return NONE;
+        int lead = 0, nearA = UNHEARD, nearB = UNHEARD;
+        for (int who = 0; who < people.size; who++) {
+            int more = people.old(who) ? advantage(who, stone, a, b) : 0;
+            if (more > 0) {
+                lead++;
+                nearA = Math.min(nearA, hearingOf(who, stone, a));
+            } else if (more < 0) {
+                lead--;
+                nearB = Math.min(nearB, hearingOf(who, stone, b));
+            }
+        }
+        if (lead != 0) return lead > 0 ? a : b;
+        if (nearA == nearB) return NONE;
+        return nearA < nearB ? a : b;
     }
 
     public int weight(int stone, int a, int b) {
         if (!stones.has(stone) || !people.has(a) || !people.has(b)) return BAD;
-        return supporters(stone, a, b);
+        int weight = 0;
+        for (int who = 0; who < people.size; who++) {
+            if (people.old(who) && advantage(who, stone, a, b) > 0) weight++;
+        }
+        return weight;
     }
 
     public int split() {
@@ -385,29 +398,12 @@ public final class StoneVillage {
         return hands * hands * (BASE_PRAISE + knowing.praise[stone]) / BASE_PRAISE;
     }
 
-    private int supporters(int stone, int one, int other) {
-        int weight = 0;
-        for (int who = 0; who < people.size; who++) {
-            if (people.old(who) && supports(who, stone, one, other)) weight++;
-        }
-        return weight;
-    }
-
-    private boolean supports(int who, int stone, int one, int other) {
+    private int advantage(int who, int stone, int one, int other) {
         knowing.addUp(acts, people.known[who]);
-        return knowing.owned[seat(stone, one)] > knowing.owned[seat(stone, other)];
+        return knowing.owned[seat(stone, one)] - knowing.owned[seat(stone, other)];
     }
 
-    private int nearestHearing(int stone, int one, int other) {
-        int least = UNHEARD;
-        for (int who = 0; who < people.size; who++) {
-            if (people.old(who) && supports(who, stone, one, other)) {
-                least = Math.min(least, hearingOf(who, stone, one));
-            }
-        }
-        return least;
-    }
-
+    /** The least depth of all acts of the stone that one did or got, whether they hold or not. */
     private int hearingOf(int who, int stone, int one) {
         int least = UNHEARD;
         for (int act = 0; act < acts.size; act++) {

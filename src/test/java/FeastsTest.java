@@ -121,6 +121,11 @@ public final class FeastsTest {
         x.act(5, 0, 0, 0, 3, 0);
         x.dies(0);
         Check.due("forgotten ones need no feast", x.fewest(0), 0);
+        StoneVillage y = Check.village(20, 20, 20);
+        y.stone(2, 2);
+        y.act(5, 0, 2, 0, 3, 2);
+        Check.due("the first one alone does not know it", y.fewest(0), 1);
+        Check.due("the first who does", y.teller(0, 0), 1);
     }
 
     /** The greedy choice, 0, who knows most, would need three. */

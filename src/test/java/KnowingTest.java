@@ -14,6 +14,7 @@ public final class KnowingTest {
         wealth();
         weightAndQuarrel();
         quarrelByDepth();
+        quarrelByWeightAheadOfDepth();
         quarrelLooksAtGettersAndThisStone();
         split();
         Check.end();
@@ -80,6 +81,7 @@ public final class KnowingTest {
         Check.due("all given", x.parts(0, 0, 0), 0);
         Check.due("given", x.parts(0, 0, 1), 5);
         Check.due("bride stone", x.parts(0, 0, 2), 7);
+        Check.due("it binds nothing", x.bound(0, 0, 0), 0);
         x.act(1, 0, 0, 1, 1, 0);
         Check.due("nothing left to give", x.parts(0, 0, 1), 5);
         x.act(1, 0, 1, 2, 6, 1);
@@ -103,6 +105,9 @@ public final class KnowingTest {
         Check.due("1 of another ahead", x.parts(1, 0, 1), 12);
         Check.due("so not of the second", x.parts(1, 0, 0), 0);
         Check.due("the other stone's is its own", x.parts(1, 1, 0), 12);
+        x.act(0, 0, 0, 0, 0, 2);
+        Check.due("the first stays the founder, of each stone", x.parts(1, 0, 1), 12);
+        Check.due("and the second none", x.parts(1, 0, 0), 0);
         x.tell(1, 0, 0);
         Check.due("told of the first", x.parts(0, 0, 0), 0);
         Check.due("which holds now", x.parts(0, 0, 1), 12);
@@ -153,6 +158,9 @@ public final class KnowingTest {
         Check.due("of a pledge that does not hold", x.bound(0, 0, 0), 4);
         x.act(4, 0, 0, 4, 0, 0);
         Check.due("freed at last", x.bound(0, 0, 0), 0);
+        x.act(4, 0, 0, 1, 0, 0);
+        Check.due("the first is not freed anew", x.holds(0, 11), 0);
+        Check.due("nor is it told as less than none", x.bound(0, 0, 0), 0);
     }
 
     private static void freedNeedsItsPledge() {
@@ -187,6 +195,12 @@ public final class KnowingTest {
         Check.due("1 does not know it", x.holds(1, 0), Check.NONE);
         Check.due("1 knows it, but not of the bride stone", x.holds(1, 7), 0);
         Check.due("no such act", x.holds(0, 10), Check.BAD);
+        StoneVillage y = Check.village(20, 20);
+        y.stone(2, 2);
+        y.act(3, 0, 0, 1, 1, 0);
+        y.act(4, 0, 0, 0, 0, 0);
+        Check.due("the very first act, a pledge of nothing", y.holds(0, 0), 0);
+        Check.due("it can't be freed", y.holds(0, 1), 0);
     }
 
     private static void agreed() {
@@ -214,9 +228,13 @@ public final class KnowingTest {
         Check.due("owner", x.owner(-1, 0), Check.NONE);
         x.dies(4);
         Check.due("till dead", x.parts(-1, 0, 2), 12);
-        Check.due("wealth", x.wealth(-1, 2), 4);
+        x.act(5, 0, 1, 0, 10, 8);
+        Check.due("the first one of old counts as the others do", x.holds(-1, 3), Check.NONE);
+        x.tell(1, 0, 3);
+        Check.due("told, it is agreed", x.holds(-1, 3), 1);
+        Check.due("wealth", x.wealth(-1, 2), 8);
         x.act(1, 0, 2, 1, 9, 3);
-        Check.due("it holds for 0 not, who knows of the pledge", x.about(3, 6), 0);
+        Check.due("it holds for 0 not, who knows of the pledge", x.about(4, 6), 0);
         x.dies(0);
         x.dies(1);
         x.dies(3);
@@ -238,6 +256,13 @@ public final class KnowingTest {
         Check.due("the most", x.owner(0, 0), 2);
         x.dies(2);
         Check.due("a dead one too", x.owner(0, 0), 2);
+        x.act(1, 0, 1, 0, 5, 1);
+        Check.due("like ones again", x.owner(0, 0), 0);
+        StoneVillage y = Check.village(20, 20, 20, 20, 20, 20, 20, 20, 20, 20, 20, 20, 20, 20, 20, 20);
+        y.stone(2, 2);
+        y.act(0, 0, 3, 0, 0, 0);
+        for (int to = 4; to < 16; to++) y.act(1, 0, 3, to, 1, 0);
+        Check.due("one part is the most", y.owner(3, 0), 4);
         Check.due("nobody is old", x.owner(-1, 0), Check.NONE);
     }
 
@@ -336,6 +361,17 @@ public final class KnowingTest {
         Check.due("a seized counts too", y.quarrel(0, 3, 2), 3);
     }
 
+    private static void quarrelByWeightAheadOfDepth() {
+        StoneVillage x = Check.village(50, 50, 50, 20, 20);
+        x.stone(2, 2);
+        x.act(0, 0, 3, 0, 0, 1);
+        x.act(0, 0, 4, 0, 0, 0);
+        x.tell(4, 1, 1);
+        x.tell(4, 2, 1);
+        Check.due("two who heard against one who saw", x.quarrel(0, 3, 4), 4);
+        Check.due("whichever is named first", x.quarrel(0, 4, 3), 4);
+    }
+
     private static void quarrelLooksAtGettersAndThisStone() {
         StoneVillage x = Check.village(50, 50, 20, 20, 20);
         x.stone(2, 2);
@@ -391,5 +427,9 @@ public final class KnowingTest {
         Check.due("the dead do not", x.split(), 0);
         x.act(0, 1, 2, 0, 0, 2);
         Check.due("the young do not", x.split(), 0);
+        StoneVillage y = Check.village(50, 50);
+        y.stone(2, 2);
+        y.act(0, 0, 0, 0, 0, 0);
+        Check.due("about the first one's parts of the first stone", y.split(), 1);
     }
 }

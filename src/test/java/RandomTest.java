@@ -1,7 +1,10 @@
 import java.util.ArrayList;
 import java.util.List;
 
-/** Long runs of calls, always the same ones, whose answers the program and the Model must share. */
+/**
+ * Long runs of calls, always the same ones, whose answers the program and the Model must share.
+ * Takes the number of runs, if more are wanted than the usual.
+ */
 public final class RandomTest {
     private static final int RUNS = 1500, CALLS = 512;
     private static final String[] NAMES = {"person", "years", "dies", "told", "stone", "moves", "act", "about", "knows", "tell",
@@ -17,7 +20,8 @@ public final class RandomTest {
     private int[] c = new int[6];
 
     public static void main(String[] args) {
-        for (int run = 0; run < RUNS && Check.wrong() < 5; run++) new RandomTest(run).play(run);
+        int runs = args.length > 0 ? Integer.parseInt(args[0]) : RUNS;
+        for (int run = 0; run < runs && Check.wrong() < 5; run++) new RandomTest(run).play(run);
         Check.end();
     }
 
@@ -54,6 +58,7 @@ public final class RandomTest {
         for (int call = 0; call < CALLS; call++) {
             int name = call < people ? 0 : call < people + 3 ? 4 : pick(below(total));
             fillArguments(name, m);
+            if (below(25) == 0) c[below(6)] = ODD[below(ODD.length)];
             StringBuilder text = new StringBuilder(NAMES[name]);
             for (int v : c) text.append(' ').append(v);
             log.add(text.toString());

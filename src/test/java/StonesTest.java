@@ -73,6 +73,7 @@ public final class StonesTest {
         Check.due("crosses", x.count(8), 2);
         Check.due("works", x.works(0, 0, 2), 1);
         Check.due("still there", x.cross(0), Check.NOT);
+        Check.due("and counted", x.count(8), 2);
         Check.due("goes by work", x.works(0, 0, 1), 0);
         Check.due("crosses later", x.count(8), 1);
         Check.due("painted anew", x.cross(0), 3);
