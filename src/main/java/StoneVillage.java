@@ -200,7 +200,7 @@ public final class StoneVillage {
     }
 
     public int weight(int stone, int a, int b) {
-        if (!stones.has(stone) || !people.has(a) || !people.has(b)) return BAD;
+        if (!stones.has(stone) || !people.has(a) || !people.has(b) || a == b) return BAD;
         int weight = 0;
         for (int who = 0; who < people.size; who++) {
             if (people.old(who) && advantage(who, stone, a, b) > 0) weight++;
@@ -253,10 +253,11 @@ public final class StoneVillage {
     }
 
     public int teller(int stone, int i) {
-        if (!stones.has(stone) || i < 0 || i >= MOST_TELLERS) return BAD;
+        if (!stones.has(stone) || i < 0) return BAD;
         int feasts = findFewest(stone);
+        // ahead of how great i is: no number of tellers is known that it could be beyond
         if (feasts == NONE) return NONE;
-        return i < feasts ? tellers[i] : BAD;
+        return i < feasts && i < tellers.length ? tellers[i] : BAD;
     }
 
     public int count(int what) {

@@ -109,6 +109,7 @@ public final class FeastsTest {
         Check.due("no second", x.teller(0, 1), Check.BAD);
         Check.due("teller -1", x.teller(0, -1), Check.BAD);
         Check.due("teller 4", x.teller(0, 4), Check.BAD);
+        Check.due("teller MAX", x.teller(0, Integer.MAX_VALUE), Check.BAD);
         Check.due("teller of stone 1", x.teller(1, 0), Check.BAD);
         x.act(5, 0, 2, 0, 3, 0);
         Check.due("two", x.fewest(0), 2);
@@ -176,8 +177,10 @@ public final class FeastsTest {
         x.act(5, 0, 0, 0, 1, 0);
         Check.due("not by four", x.fewest(0), Check.NONE);
         for (int i = 0; i < 4; i++) Check.due("no teller " + i, x.teller(0, i), Check.NONE);
+        for (int i : new int[] {4, 5, 16, Integer.MAX_VALUE}) Check.due("nor teller " + i, x.teller(0, i), Check.NONE);
         Check.due("BAD ahead of NONE", x.teller(0, -1), Check.BAD);
-        Check.due("and where none can ever be", x.teller(0, 4), Check.BAD);
+        Check.due("teller MIN", x.teller(0, Integer.MIN_VALUE), Check.BAD);
+        Check.due("of a stone that isn't there", x.teller(1, 5), Check.BAD);
         x.dies(15);
         Check.due("four again", x.fewest(0), 4);
         Check.due("first", x.teller(0, 0), 0);
@@ -193,7 +196,9 @@ public final class FeastsTest {
         x.ban(32);
         Check.due("the tale can't be told", x.fewest(0), Check.NONE);
         Check.due("no teller", x.teller(0, 0), Check.NONE);
+        Check.due("no sixth teller", x.teller(0, 5), Check.NONE);
         x.ban(64);
+        Check.due("no sixth teller of one", x.teller(0, 5), Check.BAD);
         Check.due("another ban", x.fewest(0), 1);
         x.tell(0, 1, 1);
         x.ban(32);

@@ -315,9 +315,11 @@ public final class KnowingTest {
         x.stone(2, 2);
         Check.due("none: nobody", x.quarrel(0, 3, 4), Check.NONE);
         Check.due("like ones", x.quarrel(0, 3, 3), Check.BAD);
-        Check.due("weight of like ones", x.weight(0, 3, 3), 0);
+        Check.due("weight of like ones", x.weight(0, 3, 3), Check.BAD);
+        Check.due("weight of like ones of old", x.weight(0, 0, 0), Check.BAD);
         x.act(0, 0, 3, 0, 0, 7);
         Check.due("all of old", x.weight(0, 3, 4), 3);
+        Check.due("weight of like ones with parts", x.weight(0, 3, 3), Check.BAD);
         Check.due("none", x.weight(0, 4, 3), 0);
         Check.due("wins", x.quarrel(0, 4, 3), 3);
         x.act(1, 0, 3, 4, 6, 1);

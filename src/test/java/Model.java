@@ -319,7 +319,7 @@ final class Model {
     }
 
     int weight(int stone, int a, int b) {
-        if (!rock(stone) || !one(a) || !one(b)) return BAD;
+        if (!rock(stone) || !one(a) || !one(b) || a == b) return BAD;
         return side(stone, a, b).size();
     }
 
@@ -413,7 +413,7 @@ final class Model {
     }
 
     int teller(int stone, int i) {
-        if (!rock(stone) || !in(i, 0, 3)) return BAD;
+        if (!rock(stone) || i < 0) return BAD;
         List<Integer> tellers = feasts(stone);
         if (tellers == null) return NONE;
         return i < tellers.size() ? tellers.get(i) : BAD;
