@@ -62,7 +62,7 @@ public final class RandomTest {
             StringBuilder text = new StringBuilder(NAMES[name]);
             for (int v : c) text.append(' ').append(v);
             log.add(text.toString());
-            int got = ask(x, name), want = ask(m, name);
+            int got = Calls.ask(x, NAMES[name], c), want = ask(m, name);
             if (got == want) continue;
             System.out.println("run " + run + ", call " + call + " of " + log);
             Check.due(text.toString(), got, want);
@@ -163,43 +163,6 @@ public final class RandomTest {
         setItem(m);
         int n = mostly(5);
         set(c[0], c[1], below(8) == 0 ? mostly(38) : below(8), n);
-    }
-
-    private int ask(StoneVillage x, int name) {
-        switch (NAMES[name]) {
-            case "person": return x.person(c[0]);
-            case "years": return x.years(c[0]);
-            case "dies": return x.dies(c[0]);
-            case "told": return x.told(c[0], c[1]);
-            case "stone": return x.stone(c[0], c[1]);
-            case "moves": return x.moves(c[0], c[1]);
-            case "act": return x.act(c[0], c[1], c[2], c[3], c[4], c[5]);
-            case "about": return x.about(c[0], c[1]);
-            case "knows": return x.knows(c[0], c[1]);
-            case "tell": return x.tell(c[0], c[1], c[2]);
-            case "parts": return x.parts(c[0], c[1], c[2]);
-            case "bound": return x.bound(c[0], c[1], c[2]);
-            case "holds": return x.holds(c[0], c[1]);
-            case "owner": return x.owner(c[0], c[1]);
-            case "worth": return x.worth(c[0], c[1]);
-            case "wealth": return x.wealth(c[0], c[1]);
-            case "quarrel": return x.quarrel(c[0], c[1], c[2]);
-            case "weight": return x.weight(c[0], c[1], c[2]);
-            case "split": return x.split();
-            case "ban": return x.ban(c[0]);
-            case "feast": return x.feast(c[0], c[1], c[2]);
-            case "kept": return x.kept(c[0]);
-            case "fewest": return x.fewest(c[0]);
-            case "teller": return x.teller(c[0], c[1]);
-            case "count": return x.count(c[0]);
-            case "cross": return x.cross(c[0]);
-            case "works": return x.works(c[0], c[1], c[2]);
-            case "worked": return x.worked(c[0]);
-            case "sheet": return x.sheet(c[0], c[1], c[2]);
-            case "drop": return x.drop(c[0]);
-            case "item": return x.item(c[0], c[1], c[2], c[3]);
-            default: return x.acts(c[0], c[1], c[2], c[3]);
-        }
     }
 
     private int ask(Model m, int name) {
