@@ -135,10 +135,11 @@ public final class EdgesOfActsTest {
         VILLAGE.takes("told 0 #", 0, 3, Check.BAD);
         VILLAGE.takes("told 3 #", 0, 3, Check.BAD);
         FULL.takes("told # 3", 0, 15, Check.BAD);
-        int[] dead = {30 + 5, 0, 0, 0}, old = {50 + 5, 1, 1, 4};
+        int[] dead = {30 + 5, 0, 0, 0}, old = {50 + 5, 1, 1, 4}, young = {20 + 5, 1, 0, 3};
         for (int what = 0; what <= 3; what++) {
             VILLAGE.answers("told 3 " + what, dead[what]);
             VILLAGE.answers("told 0 " + what, old[what]);
+            VILLAGE.answers("told 2 " + what, young[what]);
         }
         FULL.answers("told 15 3", 60);
         FULL.answers("told 0 3", 59);

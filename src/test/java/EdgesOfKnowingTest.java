@@ -146,6 +146,7 @@ public final class EdgesOfKnowingTest {
         TWO.then("act 0 0 0 0 0 0; act 0 0 1 0 0 1; tell 0 1 0").answers("holds 1 1", 0);
         TWO.then("act 0 0 0 0 0 0; act 0 1 1 0 0 1").answers("holds 0 1", 1);
         TWO.then("act 0 0 0 0 0 0; act 1 0 0 1 12 0; act 0 0 0 0 0 0").answers("holds 0 2", 0);
+        TWO.then("act 0 0 0 0 0 0; act 0 1 0 0 0 0; act 0 0 0 0 0 0").answers("holds 0 2", 0);
     }
 
     /** "GIVEN, BRIDE STONE, PLEDGED, if the giver has as many PARTS". */
@@ -168,6 +169,12 @@ public final class EdgesOfKnowingTest {
         TWO.then("act 0 0 0 0 0 0; act 2 0 0 1 12 0").answers("parts 0 0 1", 12);
         TWO.then("act 0 0 0 0 0 0; act 3 0 0 1 12 0").answers("parts 0 0 1", 0);
         TWO.then("act 0 0 0 0 0 0; act 3 0 0 1 12 0").answers("bound 0 0 0", 12);
+        TWO.then("act 0 0 0 0 0 0; act 1 0 0 1 4 0").answers("bound 0 0 0", 0);
+        TWO.then("act 0 0 0 0 0 0; act 2 0 0 1 4 0").answers("bound 0 0 0", 0);
+        TWO.then("act 0 0 0 0 0 0; act 2 0 0 1 4 0").answers("bound 0 0 1", 0);
+        TWO.then("act 0 0 0 0 0 0; act 2 0 0 1 4 0; act 1 0 0 1 5 0").answers("parts 0 0 1", 9);
+        TWO.then("act 0 0 0 0 0 0; act 2 0 0 1 4 0; act 1 0 0 1 5 0").answers("parts 0 0 0", 3);
+        TWO.then("act 0 0 0 0 0 0; act 1 0 0 1 12 0; act 1 0 1 0 12 1").answers("parts 0 0 0", 12);
     }
 
     /** "not counting those BOUND"; "PLEDGED binds as many of the giver's till FREED". */
@@ -195,6 +202,8 @@ public final class EdgesOfKnowingTest {
         s.then("act 4 0 0 1 0 0; act 4 0 0 1 0 0").answers("holds 0 5", 0);
         s.then("act 4 0 0 1 0 0; act 4 0 0 1 0 0").answers("bound 0 0 0", 7);
         s.then("act 4 0 0 1 0 0; act 4 0 0 2 0 0").answers("bound 0 0 0", 0);
+        s.then("act 4 0 0 1 0 0; act 4 0 0 2 0 0; act 4 0 0 1 0 0").answers("holds 0 6", 0);
+        s.then("act 4 0 0 1 0 0; act 4 0 0 2 0 0; act 4 0 0 1 0 0").answers("bound 0 0 0", 0);
         s.then("act 4 0 0 3 0 0").answers("holds 0 4", 0);
         s.then("act 4 0 0 3 0 0").answers("bound 0 0 0", 12);
         s.then("act 4 0 0 1 0 2").answers("holds 1 4", 0);
@@ -306,6 +315,13 @@ public final class EdgesOfKnowingTest {
         s.then("person 40").answers("parts -1 0 2", 0);
         s.then("person 40; tell 0 3 0").answers("parts -1 0 2", 12);
         s.then("person 39; years 1").answers("parts -1 0 2", 0);
+        // each one of old has to know it, the first, one in the midst and the last
+        Story three = Story.of("person 40; person 40; person 40; stone 1 1");
+        three.then("act 0 0 0 0 0 6").answers("parts -1 0 0", 12);
+        three.then("act 0 0 0 0 0 2; tell 1 2 0").answers("parts -1 0 0", 12);
+        three.then("act 0 0 0 0 0 2").answers("parts -1 0 0", 0);
+        three.then("act 0 0 0 0 0 4").answers("parts -1 0 0", 0);
+        three.then("act 0 0 1 0 0 4").answers("parts -1 0 1", 0);
         // an act that is strong though no one is old is agreed on by nobody till somebody is
         Story young = Story.of("person 39; stone 1 1; act 0 0 0 0 0 0");
         young.answers("parts -1 0 0", 0);
@@ -331,6 +347,14 @@ public final class EdgesOfKnowingTest {
         s.then("act 1 0 3 2 7 1").answers("weight 0 2 3", 1);
         s.then("act 1 0 3 2 5 1").answers("weight 0 3 2", 2);
         s.then("act 3 0 3 2 12 3").answers("weight 0 3 2", 2);
+        // one part more is more
+        Story close = s.then("act 1 0 3 0 3 3; act 1 0 3 2 4 3");
+        close.answers("weight 0 3 2", 2);
+        close.answers("weight 0 2 3", 0);
+        close.answers("weight 0 2 0", 2);
+        close.answers("quarrel 0 3 2", 3);
+        close.answers("quarrel 0 2 3", 3);
+        close.answers("quarrel 0 0 2", 2);
         for (int one = 0; one < 4; one++) s.refuses("weight 0 " + one + " " + one, Check.BAD);
         for (int one = 0; one < 5; one++) VILLAGE.refuses("weight 0 " + one + " " + one, Check.BAD);
         FULL.refuses("weight 7 15 15", Check.BAD);
@@ -377,6 +401,13 @@ public final class EdgesOfKnowingTest {
         s.then("act 5 0 3 0 1 1").answers("quarrel 0 2 3", 2);
         // the dead are not asked: then the weights are unlike
         s.then("dies 0").answers("quarrel 0 2 3", 3);
+        // told as 0 is not 0's own: of like depths nobody wins
+        Story zero = Story.of("person 1; person 1; person 40; person 40; person 1; stone 1 1")
+            .then("act 3 0 4 1 1 0; act 0 0 0 0 0 0; act 0 0 1 0 0 0; tell 0 2 1; tell 1 3 2");
+        for (String act : new String[] {"0 0 4 0 0 4", "5 0 4 0 1 4", "6 0 4 0 0 4", "4 0 4 0 0 4", "1 0 4 2 1 4", "2 0 4 1 1 4",
+            "3 0 4 3 1 4"}) zero.then("act " + act).refuses("quarrel 0 0 1", Check.NONE);
+        zero.then("act 3 0 4 0 1 4").answers("quarrel 0 0 1", 0);
+        zero.then("act 6 0 0 0 1 4").answers("quarrel 0 0 1", 0);
     }
 
     /** "of like ones (or none) nobody": at any depth, and for 0, the least number, as for others. */
@@ -401,6 +432,10 @@ public final class EdgesOfKnowingTest {
         s.then("tell 2 0 0; tell 2 1 0; years 1").answers("split", 0);
         s.then("tell 2 0 0; years 1; dies 1").answers("split", 0);
         s.then("years 1").answers("split", 0);
+        s.then("years 1; act 0 0 0 0 0 0").answers("split", 1);
+        Story first = Story.of("person 40; person 40; stone 1 1; act 0 0 0 0 0 0");
+        first.answers("split", 1);
+        first.then("tell 0 1 0").answers("split", 0);
         // what is bound or told is not parts
         s.then("tell 2 0 0; tell 2 1 0; years 1; act 3 0 2 1 4 1; act 5 0 2 0 4 1; act 6 0 2 0 0 1").answers("split", 0);
         s.then("tell 2 0 0; tell 2 1 0; years 1; act 1 0 2 1 1 1").answers("split", 1);
