@@ -16,6 +16,12 @@ final class Check {
         due(call, holds ? 1 : 0, 1);
     }
 
+    static void due(String what, String got, String want) {
+        if (got.equals(want)) return;
+        wrong++;
+        System.out.println(what + ": is " + got + ", due is " + want);
+    }
+
     static int wrong() {
         return wrong;
     }

@@ -187,6 +187,17 @@ public final class EdgesOfActsTest {
         sunk.answers("act 1 0 0 2 5 0", 7);
         sunk.answers("cross 0", 10);
         sunk.answers("feast 23 0 0", 4);
+        sunk.answersAs(VILLAGE, Stories.OF_STONE_0);
+        Story open = VILLAGE.then("ban 0; feast 3 0 0");
+        open.then("moves 0 -1").answersAs(open, Stories.OF_STONE_0);
+        open.then("moves 0 98").answersAs(open, Stories.OF_STONE_0);
+        // a cross is moved with its stone, and sinks with it
+        Story painted = VILLAGE.then("cross 0; works 0 0 3");
+        painted.answers("moves 0 5", 5);
+        painted.then("moves 0 7").answers("works 0 0 1", 6);
+        painted.then("moves 0 -1").answers("works 0 0 1", 6);
+        painted.then("moves 0 -1").answers("count 8", 2);
+        painted.then("moves 0 -1").refuses("cross 0", Check.NOT);
         VILLAGE.answers("works 0 1 1", 1);
         FULL.then("moves 0 -1; moves 1 -1; moves 2 -1; moves 3 -1; moves 4 -1; moves 5 -1; moves 6 -1; moves 7 -1")
             .answers("count 7", 8);
@@ -342,6 +353,8 @@ public final class EdgesOfActsTest {
         s.then("act 6 0 0 0 0 15").answers("about 0 6", 0);
         s.then("act 5 0 0 0 1 8; years 1").answers("about 0 6", 0);
         s.then("act 5 0 0 0 1 0; tell 0 1 0; tell 0 2 0").answers("about 0 6", 0);
+        s.then("act 5 0 0 0 1 0; feast 7 0 0").answers("about 0 6", 0);
+        s.then("act 5 0 0 0 1 0; feast 7 0 0; act 5 0 0 0 1 2").answers("count 6", 1);
         s.then("act 5 0 0 0 1 0; dies 1; dies 2").answers("about 0 6", 0);
         s.then("act 5 0 0 0 1 2; dies 1; dies 0").answers("about 0 6", 1);
         s.then("act 5 0 0 0 1 2; dies 1; dies 0").answers("count 6", 1);
@@ -366,8 +379,14 @@ public final class EdgesOfActsTest {
     /** "and have it HOLD in their knowing": two who know it are too few if it holds with one of them alone. */
     private static void strongIfItHolds() {
         Story s = Story.of("person 40; person 40; person 40; stone 1 1; act 0 0 0 0 0 2");
-        s.then("act 1 0 0 1 12 6").answers("about 1 6", 1);
-        s.then("act 1 0 0 1 12 4").answers("about 1 6", 0);
+        for (int kind = 1; kind <= 3; kind++) {
+            s.then("act " + kind + " 0 0 1 12 6").answers("about 1 6", 1);
+            s.then("act " + kind + " 0 0 1 12 2").answers("about 1 6", 1);
+            s.then("act " + kind + " 0 0 1 12 4").answers("about 1 6", 0);
+        }
+        s.then("act 3 0 0 1 12 2; act 4 0 0 1 0 2").answers("about 2 6", 1);
+        s.then("act 3 0 0 1 12 2; act 4 0 0 1 0 4").answers("about 2 6", 0);
+        s.then("act 3 0 0 1 12 0; act 4 0 0 1 0 2").answers("about 2 6", 0);
         s.then("act 1 0 0 1 12 0; act 1 0 0 1 1 2").answers("about 2 6", 0);
         s.then("act 1 0 0 1 11 0; act 1 0 0 1 1 2").answers("about 2 6", 1);
         s.then("act 0 0 1 0 0 1").answers("about 1 6", 0);
@@ -403,6 +422,9 @@ public final class EdgesOfActsTest {
         VILLAGE.refuses("tell 0 3 0", Check.NOT);
         VILLAGE.refuses("tell 0 4 4", Check.NOT);
         VILLAGE.answers("tell 0 4 1", 1);
+        // whose act it was may be dead
+        VILLAGE.then("dies 0").answers("tell 1 4 1", 1);
+        VILLAGE.then("dies 2").answers("tell 0 4 1", 1);
         // BAD stands ahead of each NOT
         VILLAGE.refuses("tell 3 3 0", Check.BAD);
         VILLAGE.refuses("tell 2 2 1", Check.BAD);
@@ -430,6 +452,9 @@ public final class EdgesOfActsTest {
         s = s.then("stone 1 1; act 5 0 0 0 1 0");
         for (int i = 1; i < 15; i++) s = s.then("tell " + (i - 1) + " " + i + " 0");
         s.answers("tell 14 15 0", 15);
+        s.answers("feast 65535 14 0", 1);
+        s.then("feast 65535 14 0").answers("knows 15 0", 15);
+        s.then("feast 65535 14 0").answers("knows 13 0", 13);
         Story deepest = s.then("tell 14 15 0");
         deepest.answers("knows 15 0", 15);
         deepest.answers("tell 13 15 0", 14);

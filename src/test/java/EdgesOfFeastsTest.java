@@ -49,8 +49,19 @@ public final class EdgesOfFeastsTest {
         }
         s.then("ban 127").answers("feast 3 0 0", 0);
         s.then("ban 127; ban 0").answers("feast 3 0 0", 7);
-        // those who stand by know what is banned
-        s.then("ban 127; act 6 0 0 0 0 2").answers("knows 1 7", 0);
+        // those who stand by know what is banned, and it is done, and counts, as ever
+        for (String act : new String[] {"0 0 0 0 0", "1 0 0 1 1", "2 0 0 1 1", "3 0 0 1 1", "4 0 0 3 0", "5 0 0 0 1", "6 0 0 0 0"}) {
+            s.then("ban 127").answers("act " + act + " 2", 7);
+            s.then("ban 127; act " + act + " 2").answers("knows 1 7", 0);
+        }
+        Story open = VILLAGE.then("ban 0; feast 3 0 0");
+        for (String call : Stories.OF_STONE_0) {
+            boolean tells = call.startsWith("tell") || call.startsWith("feast") || call.startsWith("fewest");
+            if (!tells) open.then("ban 127").answersAs(open, call);
+        }
+        Story quarrel = Story.of("person 40; person 40; person 1; person 1; stone 1 1; act 0 0 2 0 0 1; act 0 0 3 0 0 0; tell 3 1 1");
+        quarrel.answers("quarrel 0 2 3", 2);
+        quarrel.then("ban 127").answers("quarrel 0 3 2", 2);
     }
 
     /** "BAD (bits of those who live, one at least); NOT: the teller is not there." */
@@ -137,6 +148,16 @@ public final class EdgesOfFeastsTest {
         VILLAGE.then("dies 0; dies 2").answers("kept 2", 2);
         VILLAGE.then("dies 0; dies 1; dies 2; dies 4").answers("kept 0", 0);
         VILLAGE.then("ban 127").answers("kept 1", 2);
+        // an act of each kind is one to keep
+        Story both = Story.of("person 1; person 1; stone 1 1; act 0 0 0 0 0 2; act 3 0 0 1 1 2");
+        both.answers("kept 0", 2);
+        for (int kind = 0; kind <= 6; kind++) {
+            Story one = both.then("act " + kind + " 0 0 1 1 0");
+            one.answers("kept 0", 1);
+            one.answers("fewest 0", 1);
+            one.answers("teller 0 0", 0);
+            one.answers("feast 3 0 0", 1);
+        }
     }
 
     /** "FEWEST: (0 .. 4)", "how many. BAD; NONE: not by 4." */
@@ -285,6 +306,9 @@ public final class EdgesOfFeastsTest {
         VILLAGE.then("cross 0").answers("parts 0 0 0", 8);
         VILLAGE.then("cross 0").answers("worth 0 0", 100);
         VILLAGE.then("cross 0").answers("owner -1 0", 0);
+        Story open = VILLAGE.then("ban 0; feast 3 0 0");
+        open.then("cross 0").answersAs(open, Stories.OF_STONE_0);
+        open.then("cross 0; works 0 0 100").answersAs(open, Stories.OF_STONE_0);
         NOTHING.then("stone 1 1").answers("cross 0", 1);
         NOTHING.then("stone 40 1").answers("cross 0", 40);
         Story all = FULL;

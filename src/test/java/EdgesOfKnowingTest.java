@@ -22,6 +22,7 @@ public final class EdgesOfKnowingTest {
         weight();
         quarrelByWeight();
         quarrelByDepth();
+        quarrelByNearest();
         quarrelOfLikeOnes();
         split();
         Check.end();
@@ -71,6 +72,9 @@ public final class EdgesOfKnowingTest {
         dead.answers("quarrel 0 2 3", 2);
         dead.answers("weight 0 2 3", 2);
         VILLAGE.then("dies 0").answers("owner 4 0", 0);
+        VILLAGE.then("dies 0").answers("bound 2 0 0", 3);
+        VILLAGE.then("dies 0").answers("holds 2 2", 1);
+        VILLAGE.then("dies 0").answers("parts -1 0 0", 12);
         VILLAGE.then("dies 0").answers("wealth 4 0", 300);
     }
 
@@ -114,6 +118,14 @@ public final class EdgesOfKnowingTest {
         FULL.answers("split", 128);
         FULL.then("feast 65535 15 7").answers("split", 0);
         FULL.then("dies 15").answers("split", 0);
+        // one of each kind that holds, the last of 60
+        Story last = TWO.times(54, "act 6 0 0 0 0 0").then("act 0 0 0 0 0 0; act 1 0 0 1 3 0; act 2 0 0 1 2 0; act 3 0 0 2 5 0")
+            .then("act 4 0 0 57 0 0; act 5 0 0 0 15 0");
+        for (int act = 54; act <= 59; act++) last.answers("holds 0 " + act, 1);
+        last.answers("parts 0 0 0", 7);
+        last.answers("parts 0 0 1", 5);
+        last.answers("bound 0 0 0", 0);
+        last.answers("worth 0 0", 3);
     }
 
     /** "Nobody, nothing": in the knowing of one who knows nothing nobody has any. */
@@ -389,6 +401,17 @@ public final class EdgesOfKnowingTest {
         s.then("tell 3 1 1").refuses("quarrel 0 3 2", Check.NONE);
         s.then("act 6 0 3 0 0 2").answers("quarrel 0 2 3", 3);
         s.then("act 6 0 3 0 0 2; act 6 0 2 0 0 1").refuses("quarrel 0 2 3", Check.NONE);
+        // whatever it is that this one did, whether it holds or not
+        Story pledge = s.then("act 3 0 3 4 1 0; act 3 0 2 4 1 0");
+        pledge.answers("quarrel 0 2 3", 2);
+        for (String did : new String[] {"0 0 3 0 0", "1 0 3 4 1", "2 0 3 4 1", "3 0 3 4 1", "4 0 3 2 0", "5 0 3 0 1", "6 0 3 0 0"}) {
+            pledge.then("act " + did + " 2").answers("quarrel 0 2 3", 3);
+            pledge.then("act " + did + " 2").answers("quarrel 0 3 2", 3);
+            pledge.then("act " + did + " 2; act 4 0 2 3 0 1").refuses("quarrel 0 2 3", Check.NONE);
+        }
+        // the dead one's acts too
+        s.then("dies 2").answers("quarrel 0 2 3", 2);
+        s.then("dies 2; dies 3; dies 4").answers("quarrel 0 3 2", 2);
         // got, pledged to, told a tale: acts of this one; not so a tale's or a freed one's other number
         s.then("act 1 0 4 3 1 2").answers("quarrel 0 2 3", 3);
         s.then("act 2 0 4 3 1 2").answers("quarrel 0 2 3", 3);
@@ -408,6 +431,24 @@ public final class EdgesOfKnowingTest {
             "3 0 4 3 1 4"}) zero.then("act " + act).refuses("quarrel 0 0 1", Check.NONE);
         zero.then("act 3 0 4 0 1 4").answers("quarrel 0 0 1", 0);
         zero.then("act 6 0 0 0 1 4").answers("quarrel 0 0 1", 0);
+    }
+
+    /** "for whom such a one of OLD KNOWS": of two for each, the nearer, be it the first or the last. */
+    private static void quarrelByNearest() {
+        String begin = "person 40; person 40; person 40; person 40; person 1; person 1; person 1; stone 1 1; act 0 0 4 0 0 0;"
+            + "act 0 0 5 0 0 0; tell 5 2 1; tell 5 3 1;";
+        Story first = Story.of(begin + "tell 4 0 0; tell 0 6 0; tell 6 1 0; act 6 0 4 0 0 1");
+        Story last = Story.of(begin + "tell 4 1 0; tell 1 6 0; tell 6 0 0; act 6 0 4 0 0 2");
+        for (Story s : new Story[] {first, last}) {
+            s.answers("weight 0 4 5", 2);
+            s.answers("weight 0 5 4", 2);
+            s.answers("quarrel 0 4 5", 4);
+            s.answers("quarrel 0 5 4", 4);
+            s.then("act 6 0 5 0 0 4").refuses("quarrel 0 4 5", Check.NONE);
+            s.then("act 6 0 5 0 0 8").refuses("quarrel 0 4 5", Check.NONE);
+        }
+        first.then("dies 0; dies 2").answers("quarrel 0 4 5", 5);
+        last.then("dies 1; dies 3").answers("quarrel 0 5 4", 5);
     }
 
     /** "of like ones (or none) nobody": at any depth, and for 0, the least number, as for others. */
@@ -431,6 +472,7 @@ public final class EdgesOfKnowingTest {
         s.then("tell 2 0 0; tell 2 1 1; years 1").answers("split", 3);
         s.then("tell 2 0 0; tell 2 1 0; years 1").answers("split", 0);
         s.then("tell 2 0 0; years 1; dies 1").answers("split", 0);
+        s.then("tell 2 0 0; years 1; dies 2").answers("split", 1);
         s.then("years 1").answers("split", 0);
         s.then("years 1; act 0 0 0 0 0 0").answers("split", 1);
         Story first = Story.of("person 40; person 40; stone 1 1; act 0 0 0 0 0 0");

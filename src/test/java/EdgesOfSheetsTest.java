@@ -194,6 +194,9 @@ public final class EdgesOfSheetsTest {
         VILLAGE.then("acts 1 1 0 2").answers("about 8 3", 1);
         VILLAGE.then("acts 2 2 0 1").answers("about 7 7", 23);
         VILLAGE.then("acts 2 2 0 1").answers("drop 2", 6);
+        // the row stays, to be taken again
+        VILLAGE.then("acts 0 0 0 1; acts 0 0 0 1").answers("about 8 0", 5);
+        VILLAGE.then("acts 0 0 0 1; acts 0 0 0 1").answers("about 8 4", 11);
     }
 
     /** "how many were done till the first that is refused": what was done ahead of it stays. */

@@ -23,6 +23,7 @@ public final class FaceTest {
         constructor();
         nested();
         words();
+        room();
         Check.end();
     }
 
@@ -69,6 +70,22 @@ public final class FaceTest {
             Check.due(c + " is static", Modifier.isStatic(c.getModifiers()));
             Check.due(c + " is not public", !Modifier.isPublic(c.getModifiers()) && !Modifier.isProtected(c.getModifiers()));
             Check.due(c + " has few fields", c.getDeclaredFields().length <= 20);
+        }
+    }
+
+    /** All calls of a run live in one room: objects are made in the constructors alone, and no call makes one. */
+    private static void room() throws IOException {
+        for (String line : Files.readAllLines(Path.of("src/main/java/StoneVillage.java"))) {
+            if (!line.matches(".*\\bnew\\b.*") || line.trim().matches("//.*|\\*.*|/\\*.*")) continue;
+            boolean inConstructor = line.matches(" {8}\\w+ = new \\w+(\\(\\)|\\[.*\\]);");
+            boolean ofField = line.matches(" {8}final \\w+\\[\\] \\w+ = new \\w+\\[.*\\];");
+            Check.due("made ahead of all calls: " + line.trim(), inConstructor || ofField);
+        }
+        StoneVillage x = new StoneVillage();
+        for (Field f : x.getClass().getDeclaredFields()) {
+            if (!Modifier.isStatic(f.getModifiers()) && !f.getType().isPrimitive()) {
+                Check.due(f.getName() + " is made once", Modifier.isFinal(f.getModifiers()));
+            }
         }
     }
 

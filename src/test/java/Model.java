@@ -237,7 +237,7 @@ final class Model {
         return list;
     }
 
-    private View view(int who, int stone) {
+    View view(int who, int stone) {
         return new View(knowledge(who), stone, deeds);
     }
 

@@ -1,8 +1,13 @@
 import java.util.ArrayList;
 import java.util.List;
+import java.util.Map;
+import java.util.Set;
+import java.util.TreeMap;
+import java.util.TreeSet;
 
 /**
- * Long runs of calls, always the same ones, whose answers the program and the Model must share.
+ * Long runs of calls, always the same ones, whose answers the program and the Model must share. In every other run,
+ * a likely one, givers mostly have what they give and tellers know what they tell: else few acts would hold.
  * Takes the number of runs, if more are wanted than the usual.
  */
 public final class RandomTest {
@@ -15,20 +20,34 @@ public final class RandomTest {
     private static final int[] ODD = {-1, -2, 16, 17, 60, 61, 100, 127, 128, 65536, -65536, Integer.MAX_VALUE, Integer.MIN_VALUE};
 
     private long seed;
-    private int people, ages;
+    private int people, ages, past;
+    private final boolean likely;
     private final List<String> log = new ArrayList<>();
+    private final Map<String, Set<Integer>> refused;
     private int[] c = new int[6];
 
     public static void main(String[] args) {
         int runs = args.length > 0 ? Integer.parseInt(args[0]) : RUNS;
-        for (int run = 0; run < runs && Check.wrong() < 5; run++) new RandomTest(run).play(run);
+        for (int run = 0; run < runs && Check.wrong() < 5; run++) new RandomTest(run, new TreeMap<>()).play(run);
         Check.end();
     }
 
-    private RandomTest(int run) {
+    /** The answers below 0 that each call gives in the first runs. */
+    static Map<String, Set<Integer>> refusals(int runs) {
+        Map<String, Set<Integer>> all = new TreeMap<>();
+        for (String name : NAMES) all.put(name, new TreeSet<>());
+        for (int run = 0; run < runs; run++) new RandomTest(run, all).play(run);
+        return all;
+    }
+
+    private RandomTest(int run, Map<String, Set<Integer>> refused) {
+        this.refused = refused;
         seed = run * 2654435761L + 12345;
         people = run % 5 == 0 ? 16 : 3 + run % 6;
         ages = run % 3;
+        // in some runs 950 years go by ahead of all else, so that the last one comes
+        past = run % 11 == 4 ? 19 : 0;
+        likely = run % 2 == 1;
     }
 
     private int below(int n) {
@@ -56,13 +75,17 @@ public final class RandomTest {
         int total = 0;
         for (int w : WEIGHTS) total += w;
         for (int call = 0; call < CALLS; call++) {
-            int name = call < people ? 0 : call < people + 3 ? 4 : pick(below(total));
+            int begun = call - past;
+            int name = begun < 0 ? 1 : begun < people ? 0 : begun < people + 3 ? 4 : pick(below(total));
             fillArguments(name, m);
+            if (likely && below(10) > 0) makeLikely(name, m);
+            if (begun < 0) set(50);
             if (below(25) == 0) c[below(6)] = ODD[below(ODD.length)];
             StringBuilder text = new StringBuilder(NAMES[name]);
             for (int v : c) text.append(' ').append(v);
             log.add(text.toString());
             int got = Calls.ask(x, NAMES[name], c), want = ask(m, name);
+            if (got < 0 && refused.containsKey(NAMES[name])) refused.get(NAMES[name]).add(got);
             if (got == want) continue;
             System.out.println("run " + run + ", call " + call + " of " + log);
             Check.due(text.toString(), got, want);
@@ -145,6 +168,64 @@ public final class RandomTest {
             case "acts": setActs(m); break;
             default: set(); break;
         }
+    }
+
+    private void makeLikely(int name, Model m) {
+        List<Integer> alive = new ArrayList<>();
+        for (int i = 0; i < m.people.size(); i++) if (m.people.get(i).lives) alive.add(i);
+        if (alive.isEmpty() || m.rocks.isEmpty()) return;
+        int who = alive.get(below(alive.size())), stone = below(Math.min(2, m.rocks.size()));
+        Model.View seen = m.view(below(3) == 0 ? -1 : who, stone);
+        switch (NAMES[name]) {
+            case "years": set(1); break;
+            case "dies": if (below(3) > 0) set(-1); break;
+            case "act": setLikelyAct(m, stone, seen, alive); break;
+            case "tell": setLikelyTell(m, alive); break;
+            case "parts": case "bound": set(below(4) == 0 ? -1 : who, stone, owner(seen, who)); break;
+            case "wealth": set(below(4) == 0 ? -1 : who, owner(seen, who)); break;
+            case "quarrel": case "weight": set(stone, owner(seen, who), owner(m.view(who, stone), below(people))); break;
+            default: break;
+        }
+    }
+
+    /** Any one who has parts, or else the other one. */
+    private int owner(Model.View seen, int other) {
+        int one = other, owners = 0;
+        for (int i = 0; i < seen.parts.length; i++) if (seen.parts[i] > 0 && below(++owners) == 0) one = i;
+        return one;
+    }
+
+    private void setLikelyAct(Model m, int stone, Model.View seen, List<Integer> alive) {
+        int a = alive.get(below(alive.size())), givers = 0;
+        for (int i : alive) if (seen.parts[i] > seen.bound[i] && below(++givers) == 0) a = i;
+        int free = seen.parts[a] - seen.bound[a], by = bits(below(2));
+        for (int i = 0; i < 16; i++) if (!alive.contains(i)) by &= ~(1 << i);
+        int b = alive.get(below(alive.size())), kind = free <= 0 ? below(2) * 5 : 1 + below(5);
+        // as many as the giver has, one more, or few, so that some are left
+        int n = below(6) == 0 ? free + below(2) : 1 + below(3);
+        if (kind == 4) {
+            int pledges = 0;
+            for (Model.Deed d : m.deeds) {
+                if (d.kind != 3 || !alive.contains(d.a) || below(++pledges) > 0) continue;
+                b = d.id;
+                stone = d.stone;
+                a = d.a;
+            }
+        }
+        set(kind, stone, a, b, n, by);
+    }
+
+    private void setLikelyTell(Model m, List<Integer> alive) {
+        if (m.deeds.isEmpty()) return;
+        Model.Deed deed = m.deeds.get(below(m.deeds.size()));
+        int from = who(), deepest = -1;
+        for (int i : alive) {
+            int depth = m.people.get(i).known.getOrDefault(deed, -1);
+            if (depth < 0 || depth < deepest && below(2) > 0) continue;
+            from = i;
+            deepest = depth;
+        }
+        set(from, alive.get(below(alive.size())), deed.id);
     }
 
     private void setFeast(Model m) {

@@ -1,5 +1,12 @@
 /** The villages that the tests of edges begin with. */
 final class Stories {
+    /** Calls about stone 0 of the village. */
+    static final String[] OF_STONE_0 = {"parts 0 0 2", "parts -1 0 0", "bound 2 0 0", "holds 0 1", "holds -1 0", "owner 1 0",
+        "owner -1 0", "worth 1 0", "wealth 0 0", "wealth -1 0", "quarrel 0 0 2", "weight 0 0 2", "split", "tell 0 4 1",
+        "feast 23 0 0", "kept 0", "fewest 0", "teller 0 0", "act 0 0 0 0 0 0", "act 1 0 0 2 5 0", "act 2 0 0 2 5 0",
+        "act 3 0 0 2 5 0", "act 4 0 0 2 0 0", "act 5 0 0 0 5 0", "act 6 0 0 0 0 0", "acts 0 0 0 1", "about 2 8", "knows 4 0",
+        "told 0 3", "count 2", "count 5", "count 6", "dies 0"};
+
     private Stories() {
     }
 

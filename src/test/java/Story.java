@@ -50,6 +50,11 @@ final class Story {
         Check.due(call, Calls.ask(play(), call), due);
     }
 
+    /** What is another way here changes nothing for these calls. */
+    void answersAs(Story other, String... asked) {
+        for (String call : asked) Check.due(call + ", as else", Calls.ask(play(), call), Calls.ask(other.play(), call));
+    }
+
     /** The call is refused so, and nothing has changed. */
     void refuses(String call, int due) {
         answers(call, due);
