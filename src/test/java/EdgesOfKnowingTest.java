@@ -223,6 +223,15 @@ public final class EdgesOfKnowingTest {
         // a first FREED that one does not know is no FREED to that one
         s.then("act 4 0 0 1 0 0; act 4 0 0 1 0 2; tell 0 1 1").answers("holds 1 5", 1);
         s.then("act 4 0 0 1 0 0; act 4 0 0 1 0 2; tell 0 1 1").answers("holds 0 5", 0);
+        // however far its pledge lies behind it, and whatever pledge it is
+        Story far = TWO.then("act 0 0 0 0 0 0; act 3 0 0 1 5 0").times(31, "act 5 0 0 0 1 0").then("act 3 0 0 1 6 0");
+        for (String both : new String[] {"act 4 0 0 1 0 0; act 4 0 0 33 0 0", "act 4 0 0 33 0 0; act 4 0 0 1 0 0"}) {
+            far.then(both).answers("holds 0 34", 1);
+            far.then(both).answers("holds 0 35", 1);
+            far.then(both).answers("bound 0 0 0", 0);
+        }
+        far.then("act 4 0 0 1 0 0").answers("bound 0 0 0", 6);
+        far.then("act 4 0 0 33 0 0").answers("bound 0 0 0", 5);
         // one that does not hold frees nothing, and does not stand in another's way
         s.then("act 4 0 0 1 0 0; act 3 0 0 1 5 0; act 4 0 0 5 0 0").answers("bound 0 0 0", 7);
     }
